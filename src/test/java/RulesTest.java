@@ -1,0 +1,145 @@
+import java.io.IOException;
+import java.lang.reflect.Constructor;
+import java.lang.reflect.Field;
+import java.lang.reflect.Method;
+import java.lang.reflect.Modifier;
+import java.nio.file.Files;
+import java.nio.file.Path;
+import java.util.ArrayList;
+import java.util.Collections;
+import java.util.HashSet;
+import java.util.List;
+import java.util.Set;
+
+/** The class's face as the document tells it, and what of LANGUAGE.md can be seen from outside. */
+final class RulesTest {
+    private static final String ARGUMENT = " IllegalArgumentException";
+    private static final String INDEX = " IndexOutOfBoundsException";
+    private static final String STATE = " IllegalStateException";
+
+    private static final String[] FACE = {
+        "int begin(int)" + ARGUMENT,
+        "int say(int,int,int)" + ARGUMENT + STATE,
+        "int look(int,int)" + INDEX,
+        "int aloud(int)" + INDEX + STATE,
+        "boolean whisper(int,int)" + INDEX,
+        "int note(int,int)" + INDEX + ARGUMENT,
+        "int ask(int,int)" + INDEX + ARGUMENT,
+        "int flip(int)" + INDEX,
+        "int call()",
+        "boolean isTrue(int,int)" + INDEX,
+        "long truth(int)" + INDEX,
+        "int of(int,int)" + INDEX + ARGUMENT,
+        "long alike(int,int)" + INDEX,
+        "int ofGuard(int,int)" + INDEX + ARGUMENT,
+        "int depth(int,int)" + INDEX + ARGUMENT,
+        "int night(int)" + ARGUMENT,
+        "long possible()",
+        "String text(int)" + INDEX,
+        "double wit(int)" + INDEX,
+        "int notes(int,int)" + INDEX,
+        "int rounds(int,int)" + INDEX + ARGUMENT,
+        "int wouldTell(int)" + INDEX,
+        "int bestNote(int,int)" + INDEX,
+        "boolean isSound()",
+        "long digest()"
+    };
+
+    /** What rules 1, 4, 6 and 10 leave out, as far as this program has no use for what they allow. */
+    private static final String[] LEFT_OUT = {
+        "package ", "import ", "->", "::", "try ", "catch ", "finally", "Exact(", "synchronized", "assert ",
+        "System.out", "System.exit", "Thread", "Random", "new Object", ".class", "getClass", "hashCode", "instanceof"
+    };
+
+    private static final Checks CHECKS = new Checks("RulesTest");
+
+    public static void main(String[] args) throws IOException {
+        face();
+        nothingElseIsSeen();
+        namesAreNotTaken();
+        source(args.length > 0 ? args[0] : "src/main/java/NightdeskRota.java");
+        CHECKS.ended();
+    }
+
+    private static void face() {
+        List<String> due = new ArrayList<>(List.of(FACE));
+        List<String> got = new ArrayList<>();
+        for (Method method : NightdeskRota.class.getDeclaredMethods()) {
+            if (Modifier.isPublic(method.getModifiers())) {
+                got.add(signature(method));
+            }
+        }
+        Collections.sort(due);
+        Collections.sort(got);
+        CHECKS.same("the public methods", got, due);
+        int modifiers = NightdeskRota.class.getModifiers();
+        CHECKS.same("public and final", Modifier.isPublic(modifiers) && Modifier.isFinal(modifiers), true);
+        Constructor<?>[] constructors = NightdeskRota.class.getDeclaredConstructors();
+        CHECKS.same("one constructor", constructors.length, 1);
+        CHECKS.same("it is public", Modifier.isPublic(constructors[0].getModifiers()), true);
+        CHECKS.same("without parameters", constructors[0].getParameterCount(), 0);
+    }
+
+    private static String signature(Method method) {
+        StringBuilder signs = new StringBuilder();
+        signs.append(method.getReturnType().getSimpleName()).append(' ').append(method.getName()).append('(');
+        for (Class<?> type : method.getParameterTypes()) {
+            signs.append(signs.charAt(signs.length() - 1) == '(' ? "" : ",").append(type.getSimpleName());
+        }
+        signs.append(')');
+        for (Class<?> type : method.getExceptionTypes()) {
+            signs.append(' ').append(type.getSimpleName());
+        }
+        return signs.toString();
+    }
+
+    private static void nothingElseIsSeen() {
+        for (Method method : NightdeskRota.class.getDeclaredMethods()) {
+            int modifiers = method.getModifiers();
+            CHECKS.same(method + " is of the face or private",
+                    Modifier.isPublic(modifiers) && !Modifier.isStatic(modifiers) || Modifier.isPrivate(modifiers), true);
+        }
+        for (Field field : NightdeskRota.class.getDeclaredFields()) {
+            CHECKS.same(field + " is private", Modifier.isPrivate(field.getModifiers()), true);
+        }
+        for (Class<?> one : everyClass()) {
+            for (Field field : one.getDeclaredFields()) {
+                boolean isStatic = Modifier.isStatic(field.getModifiers());
+                CHECKS.same(field + " is final if it is static", !isStatic || Modifier.isFinal(field.getModifiers()), true);
+            }
+            boolean inside = one != NightdeskRota.class;
+            CHECKS.same(one + " is static if it is inside", !inside || Modifier.isStatic(one.getModifiers()), true);
+        }
+    }
+
+    private static List<Class<?>> everyClass() {
+        List<Class<?>> all = new ArrayList<>(List.of(NightdeskRota.class.getDeclaredClasses()));
+        all.add(NightdeskRota.class);
+        return all;
+    }
+
+    private static void namesAreNotTaken() {
+        Set<String> face = new HashSet<>();
+        for (String one : FACE) {
+            face.add(one.substring(one.indexOf(' ') + 1, one.indexOf('(')));
+        }
+        for (Class<?> one : everyClass()) {
+            for (Method method : one.getDeclaredMethods()) {
+                boolean ofFace = one == NightdeskRota.class && Modifier.isPublic(method.getModifiers());
+                CHECKS.same(method + " bears no name of the face", ofFace || !face.contains(method.getName()), true);
+            }
+        }
+    }
+
+    private static void source(String path) throws IOException {
+        String source = Files.readString(Path.of(path));
+        for (String word : LEFT_OUT) {
+            CHECKS.same("the source has '" + word + "'", source.contains(word), false);
+        }
+        for (int at = 0; at < source.length(); at++) {
+            if (source.charAt(at) > 126) {
+                CHECKS.same("the source's sign at " + at, (int) source.charAt(at), "a plain one");
+            }
+        }
+    }
+}
