@@ -295,7 +295,7 @@ public final class NightdeskRota {
             throw new IllegalArgumentException("no such set of guards");
         }
         once.copyFrom(now);
-        // Each ask that changes anything leaves a world out, so there are less of them than worlds.
+        // Each ask that changes anything leaves a world out, so there are fewer of them than worlds.
         for (int round = 0; round < WORLDS; round++) {
             if ((once.knowersOf(sentence) & guards) != 0) {
                 return round;
@@ -815,7 +815,7 @@ public final class NightdeskRota {
                 return NONE;
             }
             long so = worlds;
-            // Each step that is not the last leaves a world out, so there are less of them than worlds.
+            // Each step that is not the last leaves a world out, so there are fewer of them than worlds.
             for (int steps = 0; steps < WORLDS; steps++) {
                 long known = knownToAll(guards, so);
                 if (!has(known, real)) {

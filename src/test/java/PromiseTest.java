@@ -26,6 +26,7 @@ final class PromiseTest {
         isTrue();
         truth();
         truthOfEachKind();
+        whoSeesAll();
         of();
         few();
         alike();
@@ -217,6 +218,10 @@ final class PromiseTest {
         refused("look(0, -1)", INDEX, () -> x.look(0, -1));
         refused("look(0, 6)", INDEX, () -> x.look(0, 6));
         same("LOOKS", x.night(9), 5);
+        int known = x.say(4, 4, 1);
+        same("guard 4 does not know of fact 1", x.truth(known), 0L);
+        x.look(4, 1);
+        same("where it knows, behind the look", x.truth(known), P1 & P2);
     }
 
     private static void aloud() {
@@ -252,6 +257,9 @@ final class PromiseTest {
         refused("whisper(0, -1)", INDEX, () -> x.whisper(0, -1));
         refused("whisper(0, 7)", INDEX, () -> x.whisper(0, 7));
         same("how often it was whispered", x.night(6), 2);
+        int known = x.say(4, 5, both);
+        x.whisper(5, both);
+        same("where guard 5 knows, behind the whisper", x.truth(known), P0 & P1);
     }
 
     private static void note() {
@@ -272,6 +280,10 @@ final class PromiseTest {
         refused("note(6, 6): the first named exception", INDEX, () -> x.note(6, 6));
         same("NOTES", x.night(7), 2);
         x.begin(1);
+        int known = x.say(4, 3, 0);
+        x.look(0, 0);
+        x.note(0, 3);
+        same("where guard 3 knows, behind the note", x.truth(known), P0);
         x.aloud(0);
         x.look(2, 3);
         same("note counts POSSIBLE worlds", x.note(2, 3), 16);
@@ -323,6 +335,13 @@ final class PromiseTest {
         refused("flip(-1)", INDEX, () -> x.flip(-1));
         refused("flip(6)", INDEX, () -> x.flip(6));
         same("SWITCHES", x.night(10), 4);
+        x.begin(1);
+        x.whisper(3, both);
+        x.flip(0);
+        for (int w = 0; w < 64; w++) {
+            long alike = (w & 3) == 2 ? ~P0 & P1 : P0 | ~P1;
+            same("alike(3, " + w + ") behind a switch", x.alike(3, w), alike);
+        }
         for (int fact = 0; fact < 6; fact++) {
             NightdeskRota y = withFacts(63);
             y.look(1, fact);
@@ -400,6 +419,19 @@ final class PromiseTest {
         same("E3:E3:p0|p1, as it was told", x.truth(allKnowThatAll), P0 | P1);
     }
 
+    private static void whoSeesAll() {
+        NightdeskRota x = withFacts(63);
+        int never = x.say(2, 0, x.say(1, 0, 0));
+        for (int fact = 0; fact < 6; fact++) {
+            same("look(5, " + fact + ")", x.look(5, fact), 32 >> fact);
+        }
+        same("parts of one that sees all", x.ofGuard(5, 0), 64);
+        same("it knows nothing that is not so", x.truth(x.say(4, 5, never)), 0L);
+        same("nor together with all", x.truth(x.say(7, 63, never)), 0L);
+        same("it knows the last fact where it is so", x.truth(x.say(7, 48, 5)), P5);
+        same("it knows all facts", x.ofGuard(5, 2), 63);
+    }
+
     private static void of() {
         NightdeskRota x = withFacts(1);
         x.look(0, 0);
@@ -457,6 +489,13 @@ final class PromiseTest {
         same("not even all would", x.of(3, 8), -1);
         x.aloud(3);
         same("what all know needs the smallest one", x.of(3, 8), 1);
+        NightdeskRota y = withFacts(63);
+        int all = 0;
+        for (int fact = 0; fact < 6; fact++) {
+            y.look(5 - fact, fact);
+            all = fact == 0 ? 0 : y.say(2, all, fact);
+        }
+        same("all six", y.of(all, 8), 63);
     }
 
     private static void alike() {
@@ -683,7 +722,11 @@ final class PromiseTest {
         x.begin(3);
         x.look(0, 0);
         x.look(1, 1);
+        int knownTo0 = x.say(4, 0, 1);
+        same("a note to guard 0", x.notes(1, knownTo0), 1);
         int both = x.say(2, 0, 1);
+        int passed = x.say(2, known, x.say(4, 2, both));
+        same("one note passed on by another", x.notes(2, passed), 2);
         int allKnow = x.say(5, 3, both);
         same("notes both ways", x.notes(0, allKnow), 2);
         same("three would be needed", x.notes(5, allKnow), -1);
@@ -735,16 +778,18 @@ final class PromiseTest {
         NightdeskRota x = withFacts(1);
         x.say(4, 0, 0);
         x.say(1, 6, 0);
-        same("p0, K0:p0", x.wouldTell(0), 2);
+        x.say(5, 63, 0);
+        same("p0, K0:p0, E63:p0", x.wouldTell(0), 3);
         same("that guard 0 does not know it", x.wouldTell(7), 2);
+        same("how many there are", x.night(3), 2);
         same("what is not true", x.wouldTell(1), -1);
         same("what is not true yet", x.wouldTell(6), -1);
         same("nothing was told", x.night(5), 0);
         same("all is possible", x.possible(), -1L);
         x.aloud(0);
-        same("now it would", x.wouldTell(6), 2);
+        same("now it would", x.wouldTell(6), 3);
         refused("wouldTell(-1)", INDEX, () -> x.wouldTell(-1));
-        refused("wouldTell(8)", INDEX, () -> x.wouldTell(8));
+        refused("wouldTell(8)", INDEX, () -> x.wouldTell(9));
     }
 
     private static void bestNote() {
@@ -765,12 +810,16 @@ final class PromiseTest {
         same("with what it has itself for two", x.bestNote(4, both), 2);
         same("two would be needed", x.bestNote(3, both), -1);
         same("NOTES", x.night(7), 0);
+        x.look(0, 4);
+        x.look(0, 2);
+        same("guard 0", x.bestNote(1, 0), 0);
+        same("that it will know it itself", x.bestNote(1, x.say(4, 1, 1)), 2);
         x.aloud(3);
-        same("what it knows already", x.bestNote(3, 3), 2);
+        same("what it knows already", x.bestNote(3, 3), 0);
         refused("bestNote(-1, 0)", INDEX, () -> x.bestNote(-1, 0));
         refused("bestNote(6, 0)", INDEX, () -> x.bestNote(6, 0));
         refused("bestNote(0, -1)", INDEX, () -> x.bestNote(0, -1));
-        refused("bestNote(0, 7)", INDEX, () -> x.bestNote(0, 7));
+        refused("bestNote(0, 7)", INDEX, () -> x.bestNote(0, 8));
     }
 
     private static void isSound() {
