@@ -1,11 +1,13 @@
 import java.io.IOException;
 import java.lang.reflect.Constructor;
 import java.lang.reflect.Field;
+import java.lang.reflect.InvocationTargetException;
 import java.lang.reflect.Method;
 import java.lang.reflect.Modifier;
 import java.nio.file.Files;
 import java.nio.file.Path;
 import java.util.ArrayList;
+import java.util.Arrays;
 import java.util.Collections;
 import java.util.HashSet;
 import java.util.List;
@@ -53,10 +55,11 @@ final class RulesTest {
 
     private static final Checks CHECKS = new Checks("RulesTest");
 
-    public static void main(String[] args) throws IOException {
+    public static void main(String[] args) throws IOException, IllegalAccessException {
         face();
         nothingElseIsSeen();
         namesAreNotTaken();
+        onlyWhatIsDeclaredIsThrown();
         source(args.length > 0 ? args[0] : "src/main/java/NightdeskRota.java");
         CHECKS.ended();
     }
@@ -129,6 +132,62 @@ final class RulesTest {
                 CHECKS.same(method + " bears no name of the face", ofFace || !face.contains(method.getName()), true);
             }
         }
+    }
+
+    /** Every call with every argument that lies on an edge, on an empty, a used and a full night. */
+    private static void onlyWhatIsDeclaredIsThrown() throws IllegalAccessException {
+        int[] edges = {Integer.MIN_VALUE, -64, -1, 0, 1, 5, 6, 7, 8, 12, 13, 39, 40, 41, 63, 64, Integer.MAX_VALUE};
+        for (int sentences = 0; sentences <= 40; sentences += 10) {
+            for (Method method : NightdeskRota.class.getDeclaredMethods()) {
+                if (!Modifier.isPublic(method.getModifiers())) {
+                    continue;
+                }
+                NightdeskRota night = used(sentences);
+                int parameters = method.getParameterCount();
+                int many = 1;
+                for (int n = 0; n < parameters; n++) {
+                    many *= edges.length;
+                }
+                for (int turn = 0; turn < many; turn++) {
+                    Object[] args = new Object[parameters];
+                    int rest = turn;
+                    for (int n = 0; n < parameters; n++) {
+                        args[n] = edges[rest % edges.length];
+                        rest /= edges.length;
+                    }
+                    String thrown = thrownBy(method, night, args);
+                    if (!thrown.isEmpty()) {
+                        CHECKS.same(method.getName() + Arrays.toString(args) + " throws " + thrown, thrown, "what is declared");
+                    }
+                }
+                CHECKS.same(method.getName() + " throws only what it declares", night.isSound(), true);
+            }
+        }
+    }
+
+    private static NightdeskRota used(int sentences) {
+        NightdeskRota night = new NightdeskRota();
+        night.begin(63);
+        for (int n = 0; n < sentences; n++) {
+            int kind = n % 8;
+            night.say(kind, kind == 0 || kind == 4 ? n % 6 : kind < 4 ? n - 1 : n + 1, n - 1);
+            night.look(n % 6, n % 5);
+        }
+        return night;
+    }
+
+    private static String thrownBy(Method method, NightdeskRota night, Object[] args) throws IllegalAccessException {
+        try {
+            method.invoke(night, args);
+        } catch (InvocationTargetException e) {
+            for (Class<?> declared : method.getExceptionTypes()) {
+                if (declared == e.getCause().getClass()) {
+                    return "";
+                }
+            }
+            return e.getCause().getClass().getName();
+        }
+        return "";
     }
 
     private static void source(String path) throws IOException {
