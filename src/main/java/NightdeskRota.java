@@ -739,12 +739,10 @@ public final class NightdeskRota {
         /** The worlds to which one comes from these by any number of ways. */
         private long reached(int guards, long worlds) {
             long all = worlds & open;
-            for (int step = 0; step < WORLDS; step++) {
-                long more = all | spread(guards, all);
-                if (more == all) {
-                    return all;
-                }
-                all = more;
+            long fresh = all;
+            for (int step = 0; step < WORLDS && fresh != 0L; step++) {
+                fresh = spread(guards, fresh) & ~all;
+                all |= fresh;
             }
             return all;
         }

@@ -4,10 +4,10 @@ final class PromiseTest {
     private static final Class<IllegalStateException> STATE = IllegalStateException.class;
     private static final Class<IndexOutOfBoundsException> INDEX = IndexOutOfBoundsException.class;
 
-    private static final long P0 = 0xAAAAAAAAAAAAAAAAL;
-    private static final long P1 = 0xCCCCCCCCCCCCCCCCL;
-    private static final long P2 = 0xF0F0F0F0F0F0F0F0L;
-    private static final long P5 = 0xFFFFFFFF00000000L;
+    private static final long P0 = Nights.P0;
+    private static final long P1 = Nights.P1;
+    private static final long P2 = Nights.P2;
+    private static final long P5 = Nights.P5;
 
     private static final Checks CHECKS = new Checks("PromiseTest");
 
@@ -58,54 +58,6 @@ final class PromiseTest {
         CHECKS.refused(what, want, call);
     }
 
-    /** A night with the sentences 0 to 5: the facts 0 to 5. */
-    private static NightdeskRota withFacts(int real) {
-        NightdeskRota x = new NightdeskRota();
-        x.begin(real);
-        for (int fact = 0; fact < 6; fact++) {
-            x.say(0, fact, 0);
-        }
-        return x;
-    }
-
-    /** Guards 0, 1, 2 see the facts 0, 1, 2 but each its own; 6 and 7: one of them is so. */
-    private static NightdeskRota withHats(int real) {
-        NightdeskRota x = withFacts(real);
-        for (int guard = 0; guard < 3; guard++) {
-            for (int fact = 0; fact < 3; fact++) {
-                if (guard != fact) {
-                    x.look(guard, fact);
-                }
-            }
-        }
-        x.say(3, 0, 1);
-        x.say(3, 6, 2);
-        return x;
-    }
-
-    /**
-     * Guard 0 cannot tell 0 from 1, 2 from 3, .. 62 from 63; guard 1 cannot tell 1 from 2, .. 61 from 62,
-     * 63 from 0. Returns the night; sentence 30 is that any fact is so (all worlds but 0).
-     */
-    private static NightdeskRota withRing(int real) {
-        NightdeskRota x = withFacts(real);
-        int carry = 0;
-        for (int fact = 1; fact < 6; fact++) {
-            x.look(0, fact);
-            int either = x.say(3, fact, carry);
-            int both = x.say(2, fact, carry);
-            int notBoth = x.say(1, both, 0);
-            x.whisper(1, x.say(2, either, notBoth));
-            carry = both;
-        }
-        int any = 0;
-        for (int fact = 1; fact < 6; fact++) {
-            any = x.say(3, any, fact);
-        }
-        same("the sentence that any fact is so", any, 30);
-        return x;
-    }
-
     private static void aNewObject() {
         NightdeskRota x = new NightdeskRota();
         same("possible() of a new object", x.possible(), -1L);
@@ -120,7 +72,7 @@ final class PromiseTest {
     }
 
     private static void begin() {
-        NightdeskRota x = withFacts(0);
+        NightdeskRota x = Nights.withFacts(0);
         x.say(1, 0, 0);
         same("begin(0): -p0 is true", x.begin(0), 1);
         same("begin(63): all facts are so", x.begin(63), 6);
@@ -203,7 +155,7 @@ final class PromiseTest {
     }
 
     private static void look() {
-        NightdeskRota x = withFacts(5);
+        NightdeskRota x = Nights.withFacts(5);
         same("look(0, 0)", x.look(0, 0), 32);
         same("look(0, 1)", x.look(0, 1), 16);
         same("look(0, 1) again", x.look(0, 1), 16);
@@ -225,7 +177,7 @@ final class PromiseTest {
     }
 
     private static void aloud() {
-        NightdeskRota x = withFacts(3);
+        NightdeskRota x = Nights.withFacts(3);
         same("aloud(p0)", x.aloud(0), 32);
         same("what is possible", x.possible(), P0);
         int known = x.say(4, 0, 1);
@@ -243,7 +195,7 @@ final class PromiseTest {
     }
 
     private static void whisper() {
-        NightdeskRota x = withFacts(1);
+        NightdeskRota x = Nights.withFacts(1);
         int both = x.say(2, 0, 1);
         same("whisper what is true", x.whisper(0, 0), true);
         same("whisper what is not", x.whisper(1, both), false);
@@ -263,7 +215,7 @@ final class PromiseTest {
     }
 
     private static void note() {
-        NightdeskRota x = withFacts(0);
+        NightdeskRota x = Nights.withFacts(0);
         x.look(0, 0);
         x.look(1, 1);
         same("note(0, 1)", x.note(0, 1), 16);
@@ -290,7 +242,7 @@ final class PromiseTest {
     }
 
     private static void ask() {
-        NightdeskRota x = withFacts(1);
+        NightdeskRota x = Nights.withFacts(1);
         x.look(0, 0);
         x.look(2, 0);
         same("only guard 1, who does not know", x.ask(2, 0), 0);
@@ -319,7 +271,7 @@ final class PromiseTest {
     }
 
     private static void flip() {
-        NightdeskRota x = withFacts(5);
+        NightdeskRota x = Nights.withFacts(5);
         int both = x.say(2, 0, 1);
         x.whisper(0, both);
         x.aloud(2);
@@ -343,12 +295,12 @@ final class PromiseTest {
             same("alike(3, " + w + ") behind a switch", x.alike(3, w), alike);
         }
         for (int fact = 0; fact < 6; fact++) {
-            NightdeskRota y = withFacts(63);
+            NightdeskRota y = Nights.withFacts(63);
             y.look(1, fact);
             y.aloud(fact);
             same("flip(" + fact + ")", y.flip(fact), 63 - (1 << fact));
             same("all know that the fact " + fact + " is not so any more", y.truth(fact), 0L);
-            same("the other 32 are possible", y.possible(), ~withFacts(0).truth(fact));
+            same("the other 32 are possible", y.possible(), ~Nights.withFacts(0).truth(fact));
         }
     }
 
@@ -362,7 +314,7 @@ final class PromiseTest {
     }
 
     private static void isTrue() {
-        NightdeskRota x = withFacts(1);
+        NightdeskRota x = Nights.withFacts(1);
         int not = x.say(1, 1, 0);
         same("p0 in 1", x.isTrue(0, 1), true);
         same("p0 in 62", x.isTrue(0, 62), false);
@@ -378,7 +330,7 @@ final class PromiseTest {
     }
 
     private static void truth() {
-        NightdeskRota x = withFacts(1);
+        NightdeskRota x = Nights.withFacts(1);
         same("p0, the world 63 as the sign", x.truth(0), P0);
         same("p1", x.truth(1), P1);
         same("p2", x.truth(2), P2);
@@ -392,7 +344,7 @@ final class PromiseTest {
     }
 
     private static void truthOfEachKind() {
-        NightdeskRota x = withFacts(1);
+        NightdeskRota x = Nights.withFacts(1);
         x.look(0, 0);
         x.look(1, 1);
         same("-p0", x.truth(x.say(1, 0, 0)), ~P0);
@@ -420,7 +372,7 @@ final class PromiseTest {
     }
 
     private static void whoSeesAll() {
-        NightdeskRota x = withFacts(63);
+        NightdeskRota x = Nights.withFacts(63);
         int never = x.say(2, 0, x.say(1, 0, 0));
         for (int fact = 0; fact < 6; fact++) {
             same("look(5, " + fact + ")", x.look(5, fact), 32 >> fact);
@@ -433,7 +385,7 @@ final class PromiseTest {
     }
 
     private static void of() {
-        NightdeskRota x = withFacts(1);
+        NightdeskRota x = Nights.withFacts(1);
         x.look(0, 0);
         x.look(4, 0);
         int not = x.say(1, 0, -7);
@@ -472,7 +424,7 @@ final class PromiseTest {
     }
 
     private static void few() {
-        NightdeskRota x = withFacts(15);
+        NightdeskRota x = Nights.withFacts(15);
         int two = x.say(2, 0, 1);
         int three = x.say(2, two, 2);
         x.look(5, 0);
@@ -489,7 +441,7 @@ final class PromiseTest {
         same("not even all would", x.of(3, 8), -1);
         x.aloud(3);
         same("what all know needs the smallest one", x.of(3, 8), 1);
-        NightdeskRota y = withFacts(63);
+        NightdeskRota y = Nights.withFacts(63);
         int all = 0;
         for (int fact = 0; fact < 6; fact++) {
             y.look(5 - fact, fact);
@@ -499,7 +451,7 @@ final class PromiseTest {
     }
 
     private static void alike() {
-        NightdeskRota x = withFacts(1);
+        NightdeskRota x = Nights.withFacts(1);
         same("nothing told apart", x.alike(0, 1), -1L);
         x.look(3, 2);
         same("alike(3, 4)", x.alike(3, 4), P2);
@@ -516,7 +468,7 @@ final class PromiseTest {
     }
 
     private static void ofGuard() {
-        NightdeskRota x = withFacts(2);
+        NightdeskRota x = Nights.withFacts(2);
         int both = x.say(2, 0, 1);
         x.look(0, 0);
         x.look(1, 0);
@@ -551,10 +503,10 @@ final class PromiseTest {
     }
 
     private static void depth() {
-        same("no hat", withHats(0).depth(7, 7), -1);
-        same("one hat", withHats(1).depth(7, 7), 0);
-        same("two hats", withHats(3).depth(7, 7), 1);
-        NightdeskRota x = withHats(7);
+        same("no hat", Nights.withHats(0).depth(7, 7), -1);
+        same("one hat", Nights.withHats(1).depth(7, 7), 0);
+        same("two hats", Nights.withHats(3).depth(7, 7), 1);
+        NightdeskRota x = Nights.withHats(7);
         same("three hats", x.depth(7, 7), 2);
         same("three hats, for one guard", x.depth(1, 7), 99);
         same("three hats, for two guards", x.depth(3, 7), 99);
@@ -569,23 +521,23 @@ final class PromiseTest {
     }
 
     private static void depthOnALongWay() {
-        NightdeskRota ring = withRing(32);
-        same("half a ring", ring.depth(3, 30), 31);
-        int common = ring.say(6, 3, 30);
+        NightdeskRota ring = Nights.withRing(32);
+        same("half a ring", ring.depth(3, Nights.ANY_FACT), 31);
+        int common = ring.say(6, 3, Nights.ANY_FACT);
         same("common nowhere on the ring", ring.truth(common), 0L);
-        NightdeskRota row = withRing(63);
-        row.whisper(1, 30);
-        same("a row of all 64 worlds", row.depth(3, 30), 62);
-        same("the row, for guard 0", row.depth(1, 30), 99);
-        common = row.say(6, 3, 30);
+        NightdeskRota row = Nights.withRing(63);
+        row.whisper(1, Nights.ANY_FACT);
+        same("a row of all 64 worlds", row.depth(3, Nights.ANY_FACT), 62);
+        same("the row, for guard 0", row.depth(1, Nights.ANY_FACT), 99);
+        common = row.say(6, 3, Nights.ANY_FACT);
         same("common nowhere on the row", row.truth(common), 0L);
-        row.aloud(30);
-        same("the row without its end", row.depth(3, 30), 99);
+        row.aloud(Nights.ANY_FACT);
+        same("the row without its end", row.depth(3, Nights.ANY_FACT), 99);
         same("common all along the row", row.truth(common), ~1L);
     }
 
     private static void night() {
-        NightdeskRota x = withFacts(6);
+        NightdeskRota x = Nights.withFacts(6);
         x.look(3, 1);
         x.look(2, 2);
         same("REAL", x.night(0), 6);
@@ -621,7 +573,7 @@ final class PromiseTest {
     }
 
     private static void possible() {
-        NightdeskRota x = withFacts(3);
+        NightdeskRota x = Nights.withFacts(3);
         same("all", x.possible(), -1L);
         x.aloud(1);
         same("with p1 told", x.possible(), P1);
@@ -632,7 +584,7 @@ final class PromiseTest {
     }
 
     private static void text() {
-        NightdeskRota x = withFacts(0);
+        NightdeskRota x = Nights.withFacts(0);
         same("a fact", x.text(5), "p5");
         int and = x.say(2, 0, 1);
         int or = x.say(3, and, 2);
@@ -682,7 +634,7 @@ final class PromiseTest {
     }
 
     private static void notes() {
-        NightdeskRota x = withFacts(15);
+        NightdeskRota x = Nights.withFacts(15);
         int two = x.say(2, 0, 1);
         int three = x.say(2, two, 2);
         x.look(0, 0);
@@ -706,7 +658,7 @@ final class PromiseTest {
     }
 
     private static void notesOfWhatOthersKnow() {
-        NightdeskRota x = withFacts(1);
+        NightdeskRota x = Nights.withFacts(1);
         x.look(0, 0);
         x.look(2, 0);
         int known = x.say(4, 1, 0);
@@ -740,7 +692,7 @@ final class PromiseTest {
     private static void rounds() {
         int[] due = {0, 0, 1, 2};
         for (int hats = 1; hats <= 3; hats++) {
-            NightdeskRota x = withHats((1 << hats) - 1);
+            NightdeskRota x = Nights.withHats((1 << hats) - 1);
             int s = sayWhoKnowsItsHat(x);
             same("nobody told of a hat", x.rounds(7, s), -1);
             x.aloud(7);
@@ -750,7 +702,7 @@ final class PromiseTest {
             }
             same("who knows then", x.ask(7, s) != 0, true);
         }
-        NightdeskRota x = withFacts(1);
+        NightdeskRota x = Nights.withFacts(1);
         x.look(0, 0);
         same("one does now", x.rounds(3, 0), 0);
         same("guard 1 never will", x.rounds(2, 0), -1);
@@ -765,17 +717,17 @@ final class PromiseTest {
 
     /** Who can tell its world from all others stands at an end of the row; each ask takes both ends off. */
     private static void roundsOnALongWay() {
-        NightdeskRota x = withRing(32);
+        NightdeskRota x = Nights.withRing(32);
         int not = x.say(1, 0, 0);
         int left = x.say(3, x.say(4, 0, 0), x.say(4, 0, not));
         int s = x.say(3, x.say(3, left, x.say(4, 1, 0)), x.say(4, 1, not));
         same("the ring has no end", x.rounds(3, s), -1);
-        x.aloud(30);
+        x.aloud(Nights.ANY_FACT);
         same("the row from both its ends", x.rounds(3, s), 31);
     }
 
     private static void wouldTell() {
-        NightdeskRota x = withFacts(1);
+        NightdeskRota x = Nights.withFacts(1);
         x.say(4, 0, 0);
         x.say(1, 6, 0);
         x.say(5, 63, 0);
@@ -789,11 +741,11 @@ final class PromiseTest {
         x.aloud(0);
         same("now it would", x.wouldTell(6), 3);
         refused("wouldTell(-1)", INDEX, () -> x.wouldTell(-1));
-        refused("wouldTell(8)", INDEX, () -> x.wouldTell(9));
+        refused("wouldTell(9)", INDEX, () -> x.wouldTell(9));
     }
 
     private static void bestNote() {
-        NightdeskRota x = withFacts(15);
+        NightdeskRota x = Nights.withFacts(15);
         x.look(0, 0);
         x.look(2, 0);
         x.look(2, 1);
@@ -819,12 +771,12 @@ final class PromiseTest {
         refused("bestNote(-1, 0)", INDEX, () -> x.bestNote(-1, 0));
         refused("bestNote(6, 0)", INDEX, () -> x.bestNote(6, 0));
         refused("bestNote(0, -1)", INDEX, () -> x.bestNote(0, -1));
-        refused("bestNote(0, 7)", INDEX, () -> x.bestNote(0, 8));
+        refused("bestNote(0, 8)", INDEX, () -> x.bestNote(0, 8));
     }
 
     private static void isSound() {
         same("a new object", new NightdeskRota().isSound(), true);
-        NightdeskRota x = withHats(7);
+        NightdeskRota x = Nights.withHats(7);
         for (int kind = 5; kind <= 7; kind++) {
             x.say(kind, 7, 7);
         }
@@ -833,7 +785,7 @@ final class PromiseTest {
         same("hats, told", x.isSound(), true);
         x.flip(1);
         same("hats, switched", x.isSound(), true);
-        same("the ring", withRing(9).isSound(), true);
+        same("the ring", Nights.withRing(9).isSound(), true);
     }
 
     private static long add(long d, long v) {
@@ -881,19 +833,19 @@ final class PromiseTest {
             d = add(d, v);
         }
         same("digest() of a new object", new NightdeskRota().digest(), d);
-        NightdeskRota x = withHats(7);
+        NightdeskRota x = Nights.withHats(7);
         x.whisper(0, 0);
         same("digest() of hats", x.digest(), digestOf(x));
         x.aloud(7);
         sayWhoKnowsItsHat(x);
         x.call();
         same("digest() of hats, told", x.digest(), digestOf(x));
-        NightdeskRota ring = withRing(40);
+        NightdeskRota ring = Nights.withRing(40);
         same("digest() of the ring", ring.digest(), digestOf(ring));
     }
 
     private static void whatWouldBeChangesNothing() {
-        NightdeskRota x = withHats(6);
+        NightdeskRota x = Nights.withHats(6);
         int s = sayWhoKnowsItsHat(x);
         x.aloud(7);
         long before = digestOf(x);
@@ -913,7 +865,7 @@ final class PromiseTest {
     }
 
     private static void whatThrowsChangesNothing() {
-        NightdeskRota x = withHats(6);
+        NightdeskRota x = Nights.withHats(6);
         x.aloud(7);
         long before = x.digest();
         Checks.Call[] wrong = {
