@@ -706,9 +706,10 @@ public final class NightdeskRota {
             return has(worldsOf(s), real);
         }
 
-        /** The possible worlds that the guard cannot tell apart from that one. */
+        /** The possible worlds that the guard cannot tell apart from that one. Asked most of all, so it calls nothing. */
         long cell(int guard, int world) {
-            return isGuard(guard) && isWorld(world) ? desks[guard * WORLDS + world] & open : 0L;
+            boolean there = guard >= 0 && guard < GUARDS && world >= 0 && world < WORLDS;
+            return there ? desks[guard * WORLDS + world] & open : 0L;
         }
 
         /** The possible worlds that look alike to that one for each of the set. */

@@ -10,8 +10,12 @@ import java.util.ArrayList;
 import java.util.Arrays;
 import java.util.Collections;
 import java.util.HashSet;
+import java.util.LinkedHashMap;
 import java.util.List;
+import java.util.Map;
 import java.util.Set;
+import java.util.regex.Matcher;
+import java.util.regex.Pattern;
 
 /** The class's face as the document tells it, and what of LANGUAGE.md can be seen from outside. */
 final class RulesTest {
@@ -53,14 +57,27 @@ final class RulesTest {
         "System.out", "System.exit", "Thread", "Random", "new Object", ".class", "getClass", "hashCode", "instanceof"
     };
 
+    /** What the program has from the library (rule 4); a class's name ahead of a point is the library's. */
+    private static final Set<String> LIBRARY = Set.of("Long.bitCount", "Integer.bitCount", "Math.max", "System.arraycopy");
+
+    private static final Pattern OF_LIBRARY = Pattern.compile("\\b([A-Z][a-z]\\w*\\.\\w+)");
+    private static final Pattern METHOD = Pattern.compile("( {4}| {8})(?:(?:public|private|static) )*(?:[\\w\\[\\]]+ )?(\\w+)\\(([^)]*)\\).*\\{");
+    private static final Pattern CALLED = Pattern.compile("\\b(\\w+)\\(");
+
+    private static final int MOST_LINES = 60;
+    private static final int MOST_PARAMETERS = 7;
+    private static final int MOST_CALLS_DEEP = 8;
+
     private static final Checks CHECKS = new Checks("RulesTest");
 
     public static void main(String[] args) throws IOException, IllegalAccessException {
+        String path = args.length > 0 ? args[0] : "src/main/java/NightdeskRota.java";
         face();
         nothingElseIsSeen();
         namesAreNotTaken();
         onlyWhatIsDeclaredIsThrown();
-        source(args.length > 0 ? args[0] : "src/main/java/NightdeskRota.java");
+        source(path);
+        methods(Files.readAllLines(Path.of(path)));
         CHECKS.ended();
     }
 
@@ -121,11 +138,16 @@ final class RulesTest {
         return all;
     }
 
-    private static void namesAreNotTaken() {
+    private static Set<String> faceNames() {
         Set<String> face = new HashSet<>();
         for (String one : FACE) {
             face.add(one.substring(one.indexOf(' ') + 1, one.indexOf('(')));
         }
+        return face;
+    }
+
+    private static void namesAreNotTaken() {
+        Set<String> face = faceNames();
         for (Class<?> one : everyClass()) {
             for (Method method : one.getDeclaredMethods()) {
                 boolean ofFace = one == NightdeskRota.class && Modifier.isPublic(method.getModifiers());
@@ -195,10 +217,54 @@ final class RulesTest {
         for (String word : LEFT_OUT) {
             CHECKS.same("the source has '" + word + "'", source.contains(word), false);
         }
+        Matcher ofLibrary = OF_LIBRARY.matcher(source);
+        while (ofLibrary.find()) {
+            CHECKS.same(ofLibrary.group(1) + " is of the library allowed", LIBRARY.contains(ofLibrary.group(1)), true);
+        }
         for (int at = 0; at < source.length(); at++) {
             if (source.charAt(at) > 126) {
                 CHECKS.same("the source's sign at " + at, (int) source.charAt(at), "a plain one");
             }
         }
+    }
+
+    /** Rule 11, of the source as it is laid out: a method's last line is the bracket below its first sign. */
+    private static void methods(List<String> lines) {
+        Map<String, String> bodies = new LinkedHashMap<>();
+        for (int at = 0; at < lines.size(); at++) {
+            Matcher method = METHOD.matcher(lines.get(at));
+            if (!method.matches()) {
+                continue;
+            }
+            String name = method.group(2);
+            StringBuilder body = new StringBuilder();
+            int first = at;
+            while (!lines.get(at).equals(method.group(1) + "}")) {
+                at++;
+                body.append(lines.get(at)).append('\n');
+            }
+            CHECKS.same(name + " is short", at - first < MOST_LINES, true);
+            CHECKS.same(name + " takes few parameters", method.group(3).split(",").length <= MOST_PARAMETERS, true);
+            CHECKS.same(name + " is the only one of its name", bodies.put(name, body.toString()) == null, true);
+        }
+        CHECKS.same("the whole face is among the methods", bodies.keySet().containsAll(faceNames()), true);
+        for (String name : bodies.keySet()) {
+            CHECKS.same(name + " calls at most eight deep", deep(bodies, name, new ArrayList<>()) <= MOST_CALLS_DEEP, true);
+        }
+    }
+
+    /** How many methods stand open at once, this one too; one that calls itself counts once. */
+    private static int deep(Map<String, String> bodies, String name, List<String> open) {
+        if (!bodies.containsKey(name) || open.contains(name)) {
+            return 0;
+        }
+        open.add(name);
+        int deepest = 0;
+        Matcher called = CALLED.matcher(bodies.get(name));
+        while (called.find()) {
+            deepest = Math.max(deepest, deep(bodies, called.group(1), open));
+        }
+        open.remove(name);
+        return deepest + 1;
     }
 }
